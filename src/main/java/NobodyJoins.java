@@ -8,6 +8,7 @@ public final class NobodyJoins {
     public static final int BAD = -1, FULL = -2, FINDING = -3, STATE = -4, SPENT = -6, NONE = -9;
 
     private static final int NOTHING = 1, BEYOND = 2, UNLIKE = 3, NOUGHT = 4, SIZE = 5;
+    private static final int WELL = 0;
 
     private static final int ROW_COUNT = 6, ROW_PLACES = 40;
     private static final int TEXT_COUNT = 4, TEXT_BYTES = 60;
@@ -17,7 +18,7 @@ public final class NobodyJoins {
     private static final int MOST_CHILDREN = 6, MOST_PAIRS = 12, MOST_DEEDS = 40;
     private static final int MOST_GRUDGES = 2;
     private static final int SETS = 1 << MOST_CHILDREN;
-    private static final int PAIR_NUMBERS = MOST_CHILDREN * MOST_CHILDREN;
+    private static final int PAIRS = MOST_CHILDREN * MOST_CHILDREN;
 
     private static final int PRESIDENT = 1, GUARD = 2, TREASURER = 3, FOUNDER = 4, SISTER = 5;
     private static final int KINDS = 6;
@@ -73,33 +74,21 @@ public final class NobodyJoins {
     }
 
     public int lay(int r, int i, int v) {
-        if (!isRow(r)) {
-            return BAD;
+        int refusal = refusalOfPlace(r, i);
+        if (refusal != WELL) {
+            return refusal;
         }
-        Row row = rows[r];
-        if (row.isMissing()) {
-            return found(NOTHING);
-        }
-        if (!row.hasPlace(i)) {
-            return found(BEYOND);
-        }
-        answer = row.places[i];
-        row.places[i] = v;
+        answer = rows[r].places[i];
+        rows[r].places[i] = v;
         return 1;
     }
 
     public int at(int r, int i) {
-        if (!isRow(r)) {
-            return BAD;
+        int refusal = refusalOfPlace(r, i);
+        if (refusal != WELL) {
+            return refusal;
         }
-        Row row = rows[r];
-        if (row.isMissing()) {
-            return found(NOTHING);
-        }
-        if (!row.hasPlace(i)) {
-            return found(BEYOND);
-        }
-        answer = row.places[i];
+        answer = rows[r].places[i];
         return 1;
     }
 
@@ -318,11 +307,9 @@ public final class NobodyJoins {
     // ---- 3 votes
 
     public int yes(int i) {
-        if (!isChild(i)) {
-            return BAD;
-        }
-        if (!club.isIn(i)) {
-            return STATE;
+        int refusal = refusalOfOneIn(i);
+        if (refusal != WELL) {
+            return refusal;
         }
         int against = club.votesAgainst(i, club.in, club.likedBy[i]);
         answer = club.votesOfSet(club.in) - against;
@@ -341,11 +328,9 @@ public final class NobodyJoins {
     }
 
     public int swing(int i) {
-        if (!isChild(i)) {
-            return BAD;
-        }
-        if (!club.isIn(i)) {
-            return STATE;
+        int refusal = refusalOfOneIn(i);
+        if (refusal != WELL) {
+            return refusal;
         }
         boolean out = club.isPutOut(i, club.in, club.likedBy[i], club.rule);
         int deciding = 0;
@@ -359,11 +344,9 @@ public final class NobodyJoins {
     }
 
     public int rules(int i) {
-        if (!isChild(i)) {
-            return BAD;
-        }
-        if (!club.isIn(i)) {
-            return STATE;
+        int refusal = refusalOfOneIn(i);
+        if (refusal != WELL) {
+            return refusal;
         }
         int fitting = 0;
         for (int v = 0; v < RULES; v++) {
@@ -416,16 +399,11 @@ public final class NobodyJoins {
     }
 
     public int run(int r) {
-        if (!isRow(r)) {
-            return BAD;
-        }
-        if (club.children == 0) {
-            return STATE;
+        int refusal = refusalOfClubAndRow(r);
+        if (refusal != WELL) {
+            return refusal;
         }
         Row row = rows[r];
-        if (row.isMissing()) {
-            return found(NOTHING);
-        }
         if (row.size > MOST_CHILDREN) {
             return found(SIZE);
         }
@@ -459,7 +437,7 @@ public final class NobodyJoins {
             return STATE;
         }
         for (int grudges = 0; grudges <= MOST_GRUDGES; grudges++) {
-            int first = orders.firstPeace(grudges, 0);
+            int first = orders.firstPeace(grudges);
             if (first != NONE) {
                 answer = first;
                 return grudges;
@@ -471,10 +449,11 @@ public final class NobodyJoins {
     // ---- 5 what a vote is worth, the tin
 
     public int power(int i) {
-        if (!isChild(i)) {
-            return BAD;
+        int refusal = refusalOfOneIn(i);
+        if (refusal != WELL) {
+            return refusal;
         }
-        if (!club.isIn(i) || club.votesOfSet(club.in) == 0) {
+        if (club.votesOfSet(club.in) == 0) {
             return STATE;
         }
         tellPart(Sums.decidedBy(club, i), FACTORIALS[Integer.bitCount(club.in)]);
@@ -482,11 +461,9 @@ public final class NobodyJoins {
     }
 
     public int share(int i) {
-        if (!isChild(i)) {
-            return BAD;
-        }
-        if (!club.isIn(i)) {
-            return STATE;
+        int refusal = refusalOfOneIn(i);
+        if (refusal != WELL) {
+            return refusal;
         }
         int friends = 0;
         for (int k = 0; k < club.children; k++) {
@@ -514,16 +491,11 @@ public final class NobodyJoins {
     }
 
     public int told(int r) {
-        if (!isRow(r)) {
-            return BAD;
-        }
-        if (club.children == 0) {
-            return STATE;
+        int refusal = refusalOfClubAndRow(r);
+        if (refusal != WELL) {
+            return refusal;
         }
         Row row = rows[r];
-        if (row.isMissing()) {
-            return found(NOTHING);
-        }
         if (row.size % 2 != 0) {
             return found(SIZE);
         }
@@ -534,16 +506,11 @@ public final class NobodyJoins {
     }
 
     public int minutes(int r) {
-        if (!isRow(r)) {
-            return BAD;
-        }
-        if (club.children == 0) {
-            return STATE;
+        int refusal = refusalOfClubAndRow(r);
+        if (refusal != WELL) {
+            return refusal;
         }
         Row row = rows[r];
-        if (row.isMissing()) {
-            return found(NOTHING);
-        }
         if (row.size % 2 != 0) {
             return found(SIZE);
         }
@@ -689,6 +656,35 @@ public final class NobodyJoins {
             }
         }
         return true;
+    }
+
+    // Each of these is WELL, or how a call is refused.
+
+    private int refusalOfPlace(int r, int i) {
+        if (!isRow(r)) {
+            return BAD;
+        }
+        if (rows[r].isMissing()) {
+            return found(NOTHING);
+        }
+        return rows[r].hasPlace(i) ? WELL : found(BEYOND);
+    }
+
+    private int refusalOfClubAndRow(int r) {
+        if (!isRow(r)) {
+            return BAD;
+        }
+        if (club.children == 0) {
+            return STATE;
+        }
+        return rows[r].isMissing() ? found(NOTHING) : WELL;
+    }
+
+    private int refusalOfOneIn(int i) {
+        if (!isChild(i)) {
+            return BAD;
+        }
+        return club.isIn(i) ? WELL : STATE;
     }
 
     private int found(int which) {
@@ -1044,7 +1040,7 @@ public final class NobodyJoins {
 
         boolean isPutOut(int i, int set, int likers, int byRule) {
             int others = set & ~(1 << i);
-            int yes = votesOfSet(others & ~likers);
+            int yes = votesAgainst(i, set, likers);
             int no = votesOfSet(set) - yes;
             if (!isCarried(i, yes, no, byRule)) {
                 return false;
@@ -1281,28 +1277,58 @@ public final class NobodyJoins {
             return set;
         }
 
-        /** The first so many grudges, from a number on, by which those in stand still, or NONE. */
-        int firstPeace(int grudges, int from) {
-            // A grudge changes the votes on one child alone, so each helps one at most.
-            if (Integer.bitCount(club.putOutOf(club.in)) > grudges) {
+        /** The first so many grudges by which those in stand still, told as one number, or NONE. */
+        int firstPeace(int grudges) {
+            switch (grudges) {
+                case 0:
+                    return club.standsStill(club.in) ? 0 : NONE;
+                case 1:
+                    return firstGrudge(0);
+                default:
+                    return firstTwoGrudges();
+            }
+        }
+
+        private int firstGrudge(int from) {
+            // A grudge changes the votes on one child alone, so it can't keep two.
+            if (Integer.bitCount(club.putOutOf(club.in)) > 1) {
                 return NONE;
             }
-            if (grudges <= 0) {
-                return 0;
-            }
-            for (int number = from; number < PAIR_NUMBERS; number++) {
-                int who = number / MOST_CHILDREN;
-                int whom = number % MOST_CHILDREN;
-                if (who != whom && club.isIn(who) && club.isIn(whom)) {
-                    club.toggleLiking(who, whom);
-                    int rest = firstPeace(grudges - 1, number + 1);
-                    club.toggleLiking(who, whom);
-                    if (rest != NONE) {
-                        return grudges == 1 ? number : PAIR_NUMBERS * number + rest;
+            for (int pair = from; pair < PAIRS; pair++) {
+                if (isPairIn(pair)) {
+                    toggle(pair);
+                    boolean still = club.standsStill(club.in);
+                    toggle(pair);
+                    if (still) {
+                        return pair;
                     }
                 }
             }
             return NONE;
+        }
+
+        private int firstTwoGrudges() {
+            for (int pair = 0; pair < PAIRS; pair++) {
+                if (isPairIn(pair)) {
+                    toggle(pair);
+                    int second = firstGrudge(pair + 1);
+                    toggle(pair);
+                    if (second != NONE) {
+                        return PAIRS * pair + second;
+                    }
+                }
+            }
+            return NONE;
+        }
+
+        private boolean isPairIn(int pair) {
+            int who = pair / MOST_CHILDREN;
+            int whom = pair % MOST_CHILDREN;
+            return who != whom && club.isIn(who) && club.isIn(whom);
+        }
+
+        private void toggle(int pair) {
+            club.toggleLiking(pair / MOST_CHILDREN, pair % MOST_CHILDREN);
         }
 
         private boolean isWithin(int set) {

@@ -39,6 +39,11 @@ public final class OrdersTest {
         NobodyJoins x = Due.clubOf("r2m0m0m0m0");
         x.oust(1);
         longestIs(x, 0, 2);
+        x.undo(0);
+        x.rule(0);
+        longestIs(x, 0, 1);
+        x.rule(2);
+        x.oust(1);
         Due.layRow(x, 5, 7, 7, 7, 7, 7);
         longestIs(x, 0, 2);
     }

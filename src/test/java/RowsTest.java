@@ -24,6 +24,10 @@ public final class RowsTest {
         due.is("row(5, 40) anew", x.row(5, 40), 40);
         due.is("at(5, 39)", x.at(5, 39), 1);
         due.is("asked() of a place anew", x.asked(), 0);
+        x.lay(5, 0, 8);
+        x.row(5, 1);
+        x.at(5, 0);
+        due.is("asked() of the first place anew", x.asked(), 0);
     }
 
     private static void rowRefuses() {

@@ -88,6 +88,10 @@ public final class SecretsTest {
         minutesAre(x, 0, 0, Integer.MIN_VALUE);
         x.oust(2);
         minutesAre(x, 2, 0, 1);
+        NobodyJoins p = Due.clubOf("r0p0m0m0");
+        minutesAre(p, 1, 1, 3);
+        minutesAre(p, 1, 1, 2, 2, 0);
+        minutesAre(p, 0, 1, 4);
         NobodyJoins s = Due.clubOf("r0s0s0s0s0s0s0");
         minutesAre(s, 32L * 32 * 32 * 32 * 32 * 32, 0, 0, 1, 0, 2, 0, 3, 0, 4, 0, 5, 0);
         NobodyJoins t = Due.clubOf("r0m0t5m0");

@@ -23,6 +23,9 @@ public final class TextsTest {
         due.is("put(3, 59, 65)", x.put(3, 59, 65), 1032);
         due.is("text(3, 60) anew", x.text(3, 60), 60);
         due.is("put of a place anew", x.put(3, 59, 65), 1032);
+        due.is("put(3, 0, 65)", x.put(3, 0, 65), 1032);
+        x.text(3, 1);
+        due.is("put of the first place anew", x.put(3, 0, 65), 1032);
     }
 
     private static void textRefuses() {
@@ -75,6 +78,8 @@ public final class TextsTest {
         faultAt("r00", 2);
         faultAt("r0m", 3);
         faultAt("r0m ", 3);
+        faultAt("r0m0m", 5);
+        faultAt("r0m0ml01", 5);
         faultAt("r0m 0", 3);
         faultAt("r0mm", 3);
         faultAt("r0x0", 2);
@@ -85,6 +90,9 @@ public final class TextsTest {
         faultAt("r0m0m0l", 7);
         faultAt("r0m0m0l ", 7);
         faultAt("r0m0m0lx", 7);
+        faultAt("r0m0m0ll01", 7);
+        faultAt("r0m0m0l01l", 10);
+        faultAt("r0m0m0l0l01", 8);
         faultAt("r0m0m0l2", 7);
         faultAt("r0m0m0l0", 8);
         faultAt("r0m0m0l0 1", 8);
@@ -125,7 +133,9 @@ public final class TextsTest {
         NobodyJoins x = Due.clubOf("r0m1m1m1");
         x.fee();
         x.oust(0);
+        x.keep(0);
         x.keep(1);
+        x.keep(2);
         Due.write(x, 2, " r2 m3 p4 l10 ");
         due.is("club(2)", x.club(2), 2);
         due.is("all IN", x.count(1), 3);

@@ -62,6 +62,7 @@ public final class VotesTest {
         rulesOf("r0m0m0p0p0l10", 0, 11);
         rulesOf("r0s0s0", 0, 0);
         rulesOf("r0s0m0l10", 0, 0);
+        rulesOf("r0s0m0", 0, 15);
     }
 
     private static void ruleByAllOthers() {
@@ -111,6 +112,12 @@ public final class VotesTest {
         x.grudge(0, 3);
         due.is("can() again", x.can(), 6);
         due.is("3 may JOIN", x.asked(), 8);
+        NobodyJoins first = Due.clubOf("r0m0m0m0l12l21");
+        first.oust(0);
+        first.grudge(1, 0);
+        first.grudge(2, 0);
+        first.can();
+        due.is("0 may JOIN", first.asked(), 1);
         NobodyJoins none = new NobodyJoins();
         due.is("can() without children", none.can(), 0);
         due.is("can() without children, asked()", none.asked(), 0);

@@ -60,6 +60,12 @@ public final class WorthTest {
         due.is("fee()", x.fee(), 7);
         shareIs(x, 0, 3, 4);
         shareIs(x, 1, 2, 0);
+        x.grudge(0, 1);
+        shareIs(x, 1, 2, 3);
+        NobodyJoins last = Due.clubOf("r2m9m9");
+        last.fee();
+        last.oust(1);
+        shareIs(last, 0, 2, 0);
         NobodyJoins y = Due.clubOf("r0m9m9m9m9l13l23");
         y.fee();
         due.is("oust(0)", y.oust(0), 3);
