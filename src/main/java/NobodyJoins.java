@@ -16,7 +16,6 @@ public final class NobodyJoins {
     private static final int MISSING = -1;
 
     private static final int MOST_CHILDREN = 6, MOST_PAIRS = 12, MOST_DEEDS = 40;
-    private static final int MOST_GRUDGES = 2;
     private static final int SETS = 1 << MOST_CHILDREN;
     private static final int PAIRS = MOST_CHILDREN * MOST_CHILDREN;
 
@@ -41,7 +40,7 @@ public final class NobodyJoins {
     private final Club draft = new Club();
     private final Club[] kept = new Club[KEPT_COUNT];
     private final Reader reader = new Reader();
-    private final Orders orders = new Orders(club);
+    private final Orders orders = new Orders();
     private final int[] findingCounts = new int[SIZE + 1];
     private int latestFinding = 0;
     private int answer = 0;
@@ -366,21 +365,21 @@ public final class NobodyJoins {
         if (club.children == 0) {
             return STATE;
         }
-        return orders.layLongest(rows[r]);
+        return orders.layLongest(club, rows[r]);
     }
 
     public int ways(int i) {
         if (!isChild(i)) {
             return BAD;
         }
-        orders.countPaths();
-        answer = orders.endsWith(1 << i);
-        tellNumber(orders.endsWith(0));
+        orders.countPaths(club);
+        answer = orders.endsWith(club, 1 << i);
+        tellNumber(orders.endsWith(club, 0));
         return 1;
     }
 
     public int alone() {
-        return orders.lastOnes();
+        return orders.lastOnes(club);
     }
 
     public int stands() {
@@ -410,7 +409,7 @@ public final class NobodyJoins {
         if (!namesChildren(row, 1)) {
             return found(UNLIKE);
         }
-        int left = orders.leftBy(row);
+        int left = Orders.leftBy(club, row);
         answer = left;
         return Integer.bitCount(club.in) - Integer.bitCount(left);
     }
@@ -436,14 +435,21 @@ public final class NobodyJoins {
         if (club.children == 0) {
             return STATE;
         }
-        for (int grudges = 0; grudges <= MOST_GRUDGES; grudges++) {
-            int first = orders.firstPeace(grudges);
-            if (first != NONE) {
-                answer = first;
-                return grudges;
-            }
+        int grudges = 0;
+        int first = club.standsStill(club.in) ? 0 : NONE;
+        if (first == NONE) {
+            grudges = 1;
+            first = Peace.firstGrudge(club, 0);
         }
-        return NONE;
+        if (first == NONE) {
+            grudges = 2;
+            first = Peace.firstTwoGrudges(club);
+        }
+        if (first == NONE) {
+            return NONE;
+        }
+        answer = first;
+        return grudges;
     }
 
     // ---- 5 what a vote is worth, the tin
@@ -1040,7 +1046,7 @@ public final class NobodyJoins {
 
         boolean isPutOut(int i, int set, int likers, int byRule) {
             int others = set & ~(1 << i);
-            int yes = votesAgainst(i, set, likers);
+            int yes = votesOfSet(others & ~likers);
             int no = votesOfSet(set) - yes;
             if (!isCarried(i, yes, no, byRule)) {
                 return false;
@@ -1184,30 +1190,26 @@ public final class NobodyJoins {
      * not on the way there, so sums over the 64 sets stand for all orders.
      */
     private static final class Orders {
-        private final Club club;
         private final int[] ofSet = new int[SETS];
 
-        Orders(Club ofClub) {
-            club = ofClub;
-        }
-
-        int layLongest(Row row) {
-            measureLengths();
+        int layLongest(Club club, Row row) {
+            measureLengths(club);
             int set = club.in;
             int length = ofSet[set];
             row.renew(length);
             for (int place = 0; place < length; place++) {
-                int i = firstOfLongest(set);
+                int i = firstOfLongest(club, set);
                 row.places[place] = i;
                 set &= ~(1 << i);
             }
             return length;
         }
 
-        private void measureLengths() {
+        private void measureLengths(Club club) {
             for (int set = 0; set <= club.in; set++) {
                 ofSet[set] = 0;
-                int out = isWithin(set) ? club.putOutOf(set) : 0;
+                boolean within = (set & ~club.in) == 0;
+                int out = within ? club.putOutOf(set) : 0;
                 for (int i = 0; i < club.children; i++) {
                     if ((out & 1 << i) != 0) {
                         ofSet[set] = Math.max(ofSet[set], 1 + ofSet[set & ~(1 << i)]);
@@ -1216,7 +1218,7 @@ public final class NobodyJoins {
             }
         }
 
-        private int firstOfLongest(int set) {
+        private int firstOfLongest(Club club, int set) {
             int out = club.putOutOf(set);
             for (int i = 0; i < club.children; i++) {
                 if ((out & 1 << i) != 0 && ofSet[set & ~(1 << i)] == ofSet[set] - 1) {
@@ -1227,7 +1229,7 @@ public final class NobodyJoins {
         }
 
         /** Of each set in how many orders it comes to be in. */
-        void countPaths() {
+        void countPaths(Club club) {
             for (int set = 0; set < SETS; set++) {
                 ofSet[set] = 0;
             }
@@ -1243,7 +1245,7 @@ public final class NobodyJoins {
         }
 
         /** By counted paths: in how many orders nobody can be put out at last, and these are in. */
-        int endsWith(int these) {
+        int endsWith(Club club, int these) {
             int ends = 0;
             for (int set = 0; set <= club.in; set++) {
                 if (ofSet[set] > 0 && (these & ~set) == 0 && club.standsStill(set)) {
@@ -1253,8 +1255,8 @@ public final class NobodyJoins {
             return ends;
         }
 
-        int lastOnes() {
-            countPaths();
+        int lastOnes(Club club) {
+            countPaths(club);
             int last = 0;
             for (int i = 0; i < club.children; i++) {
                 if (ofSet[1 << i] > 0) {
@@ -1265,7 +1267,7 @@ public final class NobodyJoins {
         }
 
         /** Who is in behind an order of a row, as far as it goes. */
-        int leftBy(Row row) {
+        static int leftBy(Club club, Row row) {
             int set = club.in;
             for (int place = 0; place < row.size; place++) {
                 int bit = 1 << row.places[place];
@@ -1276,30 +1278,22 @@ public final class NobodyJoins {
             }
             return set;
         }
+    }
 
-        /** The first so many grudges by which those in stand still, told as one number, or NONE. */
-        int firstPeace(int grudges) {
-            switch (grudges) {
-                case 0:
-                    return club.standsStill(club.in) ? 0 : NONE;
-                case 1:
-                    return firstGrudge(0);
-                default:
-                    return firstTwoGrudges();
-            }
-        }
-
-        private int firstGrudge(int from) {
+    /** Grudges by which those in stand still: tried out on the club, and taken back at once. */
+    private static final class Peace {
+        /** The first one that does alone, from a pair on, or NONE. */
+        static int firstGrudge(Club club, int from) {
             // A grudge changes the votes on one child alone, so it can't keep two.
             if (Integer.bitCount(club.putOutOf(club.in)) > 1) {
                 return NONE;
             }
             for (int pair = from; pair < PAIRS; pair++) {
-                if (isPairIn(pair)) {
-                    toggle(pair);
-                    boolean still = club.standsStill(club.in);
-                    toggle(pair);
-                    if (still) {
+                if (isPairIn(club, pair)) {
+                    toggle(club, pair);
+                    int out = club.putOutOf(club.in);
+                    toggle(club, pair);
+                    if (out == 0) {
                         return pair;
                     }
                 }
@@ -1307,12 +1301,13 @@ public final class NobodyJoins {
             return NONE;
         }
 
-        private int firstTwoGrudges() {
+        /** The first two that do together, told as one number, or NONE. */
+        static int firstTwoGrudges(Club club) {
             for (int pair = 0; pair < PAIRS; pair++) {
-                if (isPairIn(pair)) {
-                    toggle(pair);
-                    int second = firstGrudge(pair + 1);
-                    toggle(pair);
+                if (isPairIn(club, pair)) {
+                    toggle(club, pair);
+                    int second = firstGrudge(club, pair + 1);
+                    toggle(club, pair);
                     if (second != NONE) {
                         return PAIRS * pair + second;
                     }
@@ -1321,18 +1316,14 @@ public final class NobodyJoins {
             return NONE;
         }
 
-        private boolean isPairIn(int pair) {
+        private static boolean isPairIn(Club club, int pair) {
             int who = pair / MOST_CHILDREN;
             int whom = pair % MOST_CHILDREN;
             return who != whom && club.isIn(who) && club.isIn(whom);
         }
 
-        private void toggle(int pair) {
+        private static void toggle(Club club, int pair) {
             club.toggleLiking(pair / MOST_CHILDREN, pair % MOST_CHILDREN);
-        }
-
-        private boolean isWithin(int set) {
-            return (set & ~club.in) == 0;
         }
     }
 
